@@ -81,7 +81,9 @@ public final class LockWatch {
         }
         steps.copy(trial);
         acts.size = 0;
-        Arrays.fill(isKept, false);
+        for (int slot = 0; slot < SLOTS; slot++) {
+            isKept[slot] = false;
+        }
         return steps.size;
     }
 
@@ -960,7 +962,7 @@ public final class LockWatch {
                 if (later && rings.links(row, rings.chain[depth - 1], i)) {
                     rings.chain[depth] = i;
                     if (rings.links(row, i, start)) {
-                        rings.record(row, depth + 1);
+                        rings.tallyRing(row, depth + 1);
                     } else if ((locks >> rings.to[i] & 1) == 0) {
                         grow(rings, row, depth + 1, threads | thread, locks | 1 << rings.from[i]);
                     }
@@ -978,7 +980,7 @@ public final class LockWatch {
             return !(takesToRead && heldToRead);
         }
 
-        private void record(Row row, int edges) {
+        private void tallyRing(Row row, int edges) {
             boolean gated = false;
             boolean ordered = false;
             int number = 0;
