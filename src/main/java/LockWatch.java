@@ -408,7 +408,7 @@ public final class LockWatch {
         }
 
         boolean lives(int thread) {
-            return isOneOfFour(thread) && ((started & ~ended) >> thread & 1) == 1;
+            return thread >= 0 && thread < FOUR && ((started & ~ended) >> thread & 1) == 1;
         }
 
         /** Bits of all that a THREAD's sign may be about now: 0, if there is nothing, or no such THREAD or sign. */
@@ -437,10 +437,10 @@ public final class LockWatch {
         }
 
         private int awaitable(int thread) {
-            int found = 0;
+            int found = started & ~ended & ~(1 << thread);
             for (int other = 0; other < FOUR; other++) {
-                if (other != thread && lives(other) && (toWrite[other] | toRead[other]) == 0) {
-                    found |= 1 << other;
+                if ((toWrite[other] | toRead[other]) != 0) {
+                    found &= ~(1 << other);
                 }
             }
             return found;
@@ -479,6 +479,8 @@ public final class LockWatch {
         private final int[] code;
         private final int[] heldToWrite;
         private final int[] heldToRead;
+        /** Means something for touches alone. */
+        private final int[] guards;
         private final int[] before;
         /** By THREAD: the STEPS that will be AHEAD of its next one, whatever that is. */
         private final int[] past;
@@ -490,6 +492,7 @@ public final class LockWatch {
             code = new int[MOST_STEPS];
             heldToWrite = new int[MOST_STEPS];
             heldToRead = new int[MOST_STEPS];
+            guards = new int[MOST_STEPS];
             before = new int[MOST_STEPS];
             past = new int[FOUR];
             world = new World();
@@ -518,6 +521,7 @@ public final class LockWatch {
             code[size] = packed;
             heldToWrite[size] = world.toWrite[thread];
             heldToRead[size] = world.toRead[thread];
+            guards[size] = sign == WRITES ? heldToWrite[size] : heldToWrite[size] | heldToRead[size];
             order(thread, sign, about);
             world.go(thread, sign, about);
             size++;
@@ -573,23 +577,21 @@ public final class LockWatch {
         }
 
         boolean takesAt(int step) {
-            return signAt(step) == TAKES_TO_WRITE || signAt(step) == TAKES_TO_READ;
+            int sign = code[step] >> 4;
+            return sign == TAKES_TO_WRITE || sign == TAKES_TO_READ;
         }
 
         boolean writesAt(int step) {
-            return signAt(step) == WRITES;
+            return code[step] >> 4 == WRITES;
         }
 
         boolean isTouch(int step) {
-            return signAt(step) == READS || signAt(step) == WRITES;
+            int sign = code[step] >> 4;
+            return sign == READS || sign == WRITES;
         }
 
         boolean touchesAt(int step, int cell) {
-            return isTouch(step) && aboutAt(step) == cell;
-        }
-
-        int guardsAt(int step) {
-            return writesAt(step) ? heldToWrite[step] : heldAt(step);
+            return isTouch(step) && (code[step] & 3) == cell;
         }
 
         /** Drops a STEP, if there is one and what is left is a TRACE. */
@@ -605,21 +607,26 @@ public final class LockWatch {
             if (replay(was - 1)) {
                 return true;
             }
-            size = was - 1;
-            putBack(step, gone);
+            open(step, gone, was);
+            replay(was);
             return false;
         }
 
-        /** Puts a dropped STEP back to its place; there must be room for it. */
+        /** Puts a dropped STEP back to its place, if there is room for it. */
         void putBack(int step, int gone) {
-            if (size >= MOST_STEPS || step < 0 || step > size) {
-                return;
+            if (size < MOST_STEPS && step >= 0 && step <= size) {
+                int wanted = size + 1;
+                open(step, gone, wanted);
+                replay(wanted);
             }
-            for (int i = size; i > step; i--) {
+        }
+
+        /** Makes room at a place by moving the codes behind it, so that there are as many as wanted. */
+        private void open(int step, int packed, int wanted) {
+            for (int i = wanted - 1; i > step; i--) {
                 code[i] = code[i - 1];
             }
-            code[step] = gone;
-            replay(size + 1);
+            code[step] = packed;
         }
 
         /** Lets a STEP and the one behind it change places, if there are both and what is left is a TRACE. */
@@ -785,12 +792,12 @@ public final class LockWatch {
             if (state == 0) {
                 return 1 << STATE_BITS | thread;
             }
-            if (state == 1 && ownerOf(watched) == thread) {
+            if (state == 1 && (watched & 3) == thread) {
                 return watched;
             }
-            int candidates = candidatesOf(watched) & row.guardsAt(step) & locks;
+            int were = state == 1 ? ALL : watched & ALL;
             int next = state == 3 || row.writesAt(step) ? 3 : 2;
-            return next << STATE_BITS | candidates;
+            return next << STATE_BITS | were & row.guards[step] & locks;
         }
 
         /** A CELL behind the first n STEPS, of which one may be left out. */
@@ -847,7 +854,7 @@ public final class LockWatch {
                 && row.threadAt(early) != row.threadAt(late)
                 && (row.writesAt(early) || row.writesAt(late))
                 && !row.isAhead(early, late)
-                && (row.guardsAt(early) & row.guardsAt(late)) == 0;
+                && (row.guards[early] & row.guards[late]) == 0;
         }
 
         static int meetingCount(Row row, int cell) {

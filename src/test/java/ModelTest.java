@@ -552,7 +552,7 @@ public final class ModelTest {
         for (int i = 0; i < most; i++) {
             List<String> may = new ArrayList<>();
             char sign = signs.charAt(random.nextInt(signs.length()));
-            for (String about : new String[] {"A", "B", "C", "D", "a", "a", "a", "b", "c", "d", "1", "2", "3", "0"}) {
+            for (String about : (i % 3 > 0 ? "ABCDaaabcd1230" : "ABCDa1230").split("")) {
                 for (int thread = 0; thread < 4; thread++) {
                     String s = thread + "" + sign + about;
                     if (Model.mayFollow(Model.cut(text.toString()), s)) may.add(s);
@@ -590,8 +590,27 @@ public final class ModelTest {
         return text.toString();
     }
 
+    /** Threads that take any two locks, one behind the other, so that rings may fail by a thread or a lock twice. */
+    private static String pairSteps() {
+        int threads = 2 + random.nextInt(3);
+        StringBuilder text = new StringBuilder("T");
+        for (int t = 1; t < threads; t++) text.append("0f").append(t);
+        List<Integer> locks = new ArrayList<>(List.of(0, 1, 2, 3));
+        while (text.length() + 12 <= 61) {
+            int t = random.nextInt(threads);
+            java.util.Collections.shuffle(locks, random);
+            char one = (char) ('A' + locks.get(0));
+            char other = (char) ('A' + locks.get(1));
+            text.append(t).append(random.nextInt(6) == 0 ? 's' : 'l').append(one);
+            text.append(t).append(random.nextInt(6) == 0 ? 's' : 'l').append(other);
+            text.append(t).append('u').append(other).append(t).append('u').append(one);
+        }
+        return text.toString();
+    }
+
     private static String drawnText() {
-        String text = random.nextBoolean() ? ringSteps() : drawnSteps(random.nextInt(23));
+        int from = random.nextInt(10);
+        String text = from < 3 ? ringSteps() : from < 5 ? pairSteps() : drawnSteps(random.nextInt(23));
         int kind = random.nextInt(10);
         if (kind == 2) return text + "0ra0wb";
         if (text.length() > 61) text = text.substring(0, 61);

@@ -291,6 +291,18 @@ public final class PromisesTest {
             z.undo();
         }
         due("9: two drops forgotten", z.count(1), 18);
+        LockWatch mixed = of("0ra 0rb 0rc 0rd 0wa 0wb 0wc 0wd");
+        mixed.swap(0);
+        mixed.drop(7);
+        mixed.swap(1);
+        mixed.drop(6);
+        for (int i = 0; i < 12; i++) {
+            mixed.swap(3);
+        }
+        for (int left = 13; left >= 0; left--) {
+            due("9: undo", mixed.undo(), left);
+        }
+        sameSteps("9: a swap and a drop forgotten", mixed, of("0rb 0ra 0rc 0rd 0wa 0wb 0wc"));
         due("9: the step there", z.step(14, 2), 1);
     }
 
@@ -414,6 +426,14 @@ public final class PromisesTest {
         ringsAre("two by one edge", of("0f1 0lA 0lB 0uB 0lB 0uB 0uA 1lB 1lA"), 2, 2, 0, 0, 2);
         ringsAre("a gate that is a lock of the ring",
             of("0f1 0f2 0lA 0lC 0lB 0uB 0uC 0uA 1lB 1lC 1uC 1uB 2lC 2lA"), 3, 1, 1, 0, 0);
+        ringsAre("a thread twice", of("0f1 0lA 0lB 0uB 0uA 1lB 1lC 1uC 1uB 0lC 0lA"), 3, 0, 0, 0, 0);
+        ringsAre("a thread twice, not the first",
+            of("0f1 0f2 0lA 0lB 0uB 0uA 1lB 1lC 1uC 1uB 2lC 2lD 2uD 2uC 1lD 1lA"), 4, 0, 0, 0, 0);
+        ringsAre("a lock twice", of("0f1 0f2 0f3 0lA 0lB 0uB 0uA 1lB 1lC 1uC 1uB 2lC 2lB 2uB 2uC 3lB 3lA"), 4, 0, 0, 0, 0);
+        ringsAre("a lock twice", of("0f1 0f2 0f3 0lA 0lB 0uB 0uA 1lB 1lC 1uC 1uB 2lC 2lB 2uB 2uC 3lB 3lA"), 2, 2, 0, 0, 2);
+        String wayOn = "0f1 0f2 0f3 0sA 0lB 0uB 0uA 1lB 1sA 1uA 1uB 2lA 2lC 2uC 2uA 3lC 3lA";
+        ringsAre("no way on through the first lock", of(wayOn), 4, 0, 0, 0, 0);
+        ringsAre("no way on through the first lock", of(wayOn), 2, 1, 0, 0, 1);
         LockWatch x = of(TWO);
         refusesAll("14: rings", OUTSIDE, x.rings(1, 0), x.rings(5, 0), x.rings(2, -1), x.rings(2, 4), x.rings(0, 0),
             x.rings(LEAST, 0), x.rings(MOST, 0), x.rings(4, LEAST), x.rings(4, MOST));
