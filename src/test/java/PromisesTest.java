@@ -339,6 +339,9 @@ public final class PromisesTest {
         cellIs(readLock, 0, 4, 3, 0, NONE, 3, 2);
         LockWatch alone = of("0f1 1wd 1rd 1wd");
         cellIs(alone, 3, 4, 1, 15, 1, NONE, 3);
+        LockWatch fromTheFirst = of("0wb 0f1 1wb");
+        cellIs(fromTheFirst, 1, 1, 1, 15, 0, NONE, 1);
+        cellIs(fromTheFirst, 1, 3, 3, 0, NONE, 2, 2);
         LockWatch ended = of("0f1 1wd 0j1 0wd");
         cellIs(ended, 3, 4, 3, 0, NONE, 3, 2);
     }
