@@ -535,8 +535,11 @@ public final class BoundsTest {
         for (Path file : files) {
             readFile(file);
         }
-        if (files.size() < 27) {
-            fail("src/test/bounds", "a file for each promise and one for the terms are due, there are " + files.size());
+        for (int promise = 1; promise <= 26; promise++) {
+            String name = String.format("promise-%02d-", promise);
+            if (files.stream().noneMatch(f -> f.getFileName().toString().startsWith(name))) {
+                fail("src/test/bounds", "no file of promise " + promise);
+            }
         }
         System.out.println(sentences + " sentences, " + answers + " answers, " + unchanged + " probes of what stayed");
         System.out.println(wrong == 0 ? "all bounds are as due" : wrong + " things are not as due");
