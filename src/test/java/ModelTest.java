@@ -590,6 +590,33 @@ public final class ModelTest {
         return text.toString();
     }
 
+    /** A ring of four in which one step may have one more lock held, and starts and ends may come between the steps. */
+    private static String fourSteps() {
+        List<Integer> turn = new ArrayList<>(List.of(0, 1, 2, 3));
+        java.util.Collections.shuffle(turn, random);
+        int late = random.nextInt(4);
+        int gate = random.nextInt(8);
+        int waits = random.nextInt(12);
+        StringBuilder text = new StringBuilder("T");
+        for (int t = 1; t < 4; t++) {
+            if (t != late) text.append("0f").append(t);
+        }
+        for (int i = 0; i < 4; i++) {
+            int t = turn.get(i);
+            if (t == late && t != 0) text.append(i == 0 ? 0 : turn.get(i - 1)).append('f').append(t);
+            if (waits < i) text.append(t).append('j').append(turn.get(waits));
+            if (waits < i) waits = 4;
+            String other = t + "" + (random.nextInt(5) == 0 ? 's' : 'l') + (char) ('A' + (t + 2 + random.nextInt(2)) % 4);
+            if (t == gate) text.append(other);
+            text.append(t).append(random.nextInt(8) == 0 ? 's' : 'l').append((char) ('A' + t));
+            text.append(t).append(random.nextInt(8) == 0 ? 's' : 'l').append((char) ('A' + (t + 1) % 4));
+            if (i == 3) break;
+            text.append(t).append('u').append((char) ('A' + (t + 1) % 4)).append(t).append('u').append((char) ('A' + t));
+            if (t == gate) text.append(t).append('u').append(other.charAt(2));
+        }
+        return text.toString();
+    }
+
     /** Threads that take any two locks, one behind the other, so that rings may fail by a thread or a lock twice. */
     private static String pairSteps() {
         int threads = 2 + random.nextInt(3);
@@ -610,7 +637,7 @@ public final class ModelTest {
 
     private static String drawnText() {
         int from = random.nextInt(10);
-        String text = from < 3 ? ringSteps() : from < 5 ? pairSteps() : drawnSteps(random.nextInt(23));
+        String text = from < 2 ? ringSteps() : from < 3 ? fourSteps() : from < 5 ? pairSteps() : drawnSteps(random.nextInt(23));
         int kind = random.nextInt(10);
         if (kind == 2) return text + "0ra0wb";
         if (text.length() > 61) text = text.substring(0, 61);
@@ -827,7 +854,8 @@ public final class ModelTest {
             "meetings-2", "meetingsnone", "edges-2", "rings-2", "firstnone", "judge-2", "judgenone", "see-1", "see-2",
             "see-4", "which-2", "whichnone", "share-1", "lost-1", "lost-2", "lost-4", "drawn-2", "keep-1", "again-1", "again-3",
             "count-2", "rings of 2 sort 1", "rings of 2 sort 2", "rings of 2 sort 3", "rings of 3 sort 1",
-            "rings of 3 sort 2", "rings of 3 sort 3", "rings of 4 sort 0", "rings of 4 sort 3"}) {
+            "rings of 3 sort 2", "rings of 3 sort 3", "rings of 4 sort 0", "rings of 4 sort 1", "rings of 4 sort 2",
+            "rings of 4 sort 3"}) {
             needed(what);
         }
         if (args.length > 1) System.out.println(new java.util.TreeMap<>(happened));
